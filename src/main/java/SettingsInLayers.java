@@ -731,10 +731,8 @@ public final class SettingsInLayers {
         return product;
     }
 
+    /** Nothing by nothing is 0 by 1, too. */
     private static long leastTerms(long above, long below, int part) {
-        if (above == 0) {
-            return part;
-        }
         long divisor = commonDivisor(above, below);
         if (divisor == 0) {
             return part;

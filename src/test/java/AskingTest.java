@@ -94,6 +94,8 @@ public final class AskingTest {
         Due.tell(x, "ma2;");
         is("22: TOTAL", x.turn(0, 18), 0);
         is("22: TOTAL, less", x.turn(0, 7), 1);
+        x.sets(0, 0, 30);
+        is("22: as it is now", x.turn(0, 43), 0);
         Due.tell(x, "e0b@a;ma0;");
         is("22: a KEY that refers", x.turn(1, 7), 0);
         is("22: 0 and 999", x.turn(0, 0) + x.turn(0, 999), -18);
@@ -142,6 +144,8 @@ public final class AskingTest {
         is("24: it stays", x.manner(0, 4), 4);
         Due.tell(x, "e1b@a;");
         is("24: not of others", x.byManner(1, 5), 0);
+        x.sets(2, 0, 6);
+        is("24: as it is now", x.byManner(0, 6), 1);
         is("24: -1 before -4", x.byManner(8, -1), -1);
         is("24: -1", x.byManner(-1, 0), -1);
         is("24: -4", x.byManner(0, -1), -4);
@@ -163,6 +167,9 @@ public final class AskingTest {
         Due.tell(x, "ma2;");
         is("25: TOTAL", x.fewest(), 7);
         is("25: nothing changes", x.count(1), 7);
+        x.sets(2, 0, 4);
+        is("25: as it is now", x.fewest(), 7);
+        x.sets(2, 0, 2);
         Due.tell(x, "e3a=00;e4c=01;e3b=05;ma3;");
         is("25: GREATEST", x.fewest(), 3);
         Due.tell(x, "e5a@h;e5b=05;o5;");
@@ -199,6 +206,7 @@ public final class AskingTest {
     private static void promise27() {
         SettingsInLayers x = Due.told("o0;o1;o2;e0a=01;e1a=02;e2a=02;e3a=01;");
         odds(x, 2, 2, 3, 4);
+        odds(x, 1, 2, 1, 8);
         odds(x, 2, 3, 8, 9);
         odds(x, 1, 3, 2, 27);
         odds(x, 1, 20, 19, 8000);
@@ -246,7 +254,11 @@ public final class AskingTest {
         Due.tell(x, "e0c=05;");
         is("28: above", x.mean(0), 5);
         is("28: below", x.mean(1), 3);
-        Due.tell(x, "e0d=01;e0e[199];e0f@h;");
+        Due.tell(x, "e0c=01;");
+        is("28: 1 above", x.mean(0), 1);
+        is("28: 3 below", x.mean(1), 3);
+        Due.tell(x, "e0c=05;e0d=01;e0e[199];e0f@h;");
+        is("28: more KEYS", x.count(2), 63);
         is("28: in least terms", x.mean(0), 3);
         is("28: in least terms", x.mean(1), 2);
         Due.tell(x, "e0d=03;");
@@ -458,6 +470,11 @@ public final class AskingTest {
         is("36: KEYS with ENTRIES", x.count(2), 1 | 4 | 16 | 32 | 128);
         is("36: ITEMS", x.count(3), 3);
         is("36: KEYS with FAULTS", x.count(4), 255 & ~1);
+        Due.tell(x, "d0a;d5a;e0a[504];");
+        is("36: ENTRIES", x.count(0), 5);
+        is("36: ITEMS", x.count(3), 2);
+        Due.tell(x, "d0a;");
+        is("36: KEYS with ENTRIES", x.count(2), 4 | 16 | 32 | 128);
         x.row(1);
         x.letter('x');
         x.letter('x');
@@ -474,7 +491,7 @@ public final class AskingTest {
         x.manner(0, 5);
         x.since();
         x.on();
-        x.adds(0, 0, 1, 1);
+        x.adds(5, 4, 1, 1);
         x.letter(-1);
         x.row(-1);
         x.row(-1);

@@ -79,6 +79,9 @@ public final class TellingTest {
         text("o", -1001);
         text("oa", -1001);
         text("o0", -1002);
+        text("o;", -1001);
+        text("ea=00;", -1001);
+        text("da;", -1001);
         text("o00", -1002);
         text("o0;;", -1003);
         text("o0;o", -1004);
@@ -104,6 +107,7 @@ public final class TellingTest {
         text("e0h[123;", -1007);
         text("e0h[1234];", -1008);
         text("e0h[123]]", -1008);
+        text("e0h@;", -1004);
         text("e0h@1;", -1004);
         text("e0h@i;", -1004);
         text("e0h@a", -1005);
@@ -142,6 +146,7 @@ public final class TellingTest {
         text("e5h[000111222333];", 1);
         text("e5h[000111222333444];", -2000);
         text("e5h[100199];", -2000);
+        text("e5h[100100100];", -2000);
         text("e5h[100200300100];", -2000);
         text("e5h[];", 1);
         text("e5h@h;", 1);
@@ -197,6 +202,9 @@ public final class TellingTest {
         DUE.is("3: nothing of manners", x.manner(7, 0), 0);
         DUE.is("3: and with the other FAULT", Due.settings(x, "o0;x"), -1003);
         DUE.is("3: nothing on", x.count(1), 0);
+        DUE.is("3: letters of a longer text are no more", Due.settings(x, "o0"), -1002);
+        DUE.is("3: nor those of one with a FAULT", Due.settings(x, "d7h;e0a=42;"), -2000);
+        DUE.is("3: nor those of one with a FAULT", Due.settings(x, "e0a"), -1003);
         DUE.is("3: d behind e of the same text", Due.settings(x, "e5h=01;d5h;e5h!;"), 3);
         entry(x, 5, 7, 4, 0, -9);
         itemsInOrder();
