@@ -69,11 +69,14 @@ public final class SettingsInLayers {
     private final Told told = new Told();
     private final Row row = new Row();
     private final Draws draws = new Draws();
-    private final Outcome[] present = newOutcomes(KEYS);
+    private final Outcome[] present = new Outcome[KEYS];
     private final int[] refusals = new int[7];
     private boolean hasImage;
 
     public SettingsInLayers() {
+        for (int key = 0; key < KEYS; key++) {
+            present[key] = new Outcome();
+        }
     }
 
     // ---- telling ----
@@ -618,14 +621,6 @@ public final class SettingsInLayers {
         return layer * KEYS + key;
     }
 
-    private static Outcome[] newOutcomes(int howMany) {
-        Outcome[] outcomes = new Outcome[howMany];
-        for (int i = 0; i < howMany; i++) {
-            outcomes[i] = new Outcome();
-        }
-        return outcomes;
-    }
-
     private int replace(int layer, int key, int form, int number, int other) {
         int slot = slotOf(layer, key);
         int had = now.forms[slot] == NONE ? 0 : 1;
@@ -1081,7 +1076,13 @@ public final class SettingsInLayers {
         private int seenBits;
         /** The keys that are being resolved, by depth. */
         private final int[] path = new int[LEVELS];
-        private final Outcome[] levels = newOutcomes(LEVELS);
+        private final Outcome[] levels = new Outcome[LEVELS];
+
+        Resolver() {
+            for (int depth = 0; depth < LEVELS; depth++) {
+                levels[depth] = new Outcome();
+            }
+        }
 
         /** The answer is good until the next question. */
         Outcome ask(Scene asked, int key) {
@@ -1511,11 +1512,12 @@ public final class SettingsInLayers {
     }
 
     private static final class Draws {
+        private static final int WITHOUT_SIGN = 0x7fffffff;
         int z;
 
         int below(int m) {
             z = z * 1664525 + 1013904223;
-            return m <= 0 ? 0 : (z & Integer.MAX_VALUE) / 256 % m;
+            return m <= 0 ? 0 : (z & WITHOUT_SIGN) / 256 % m;
         }
     }
 }

@@ -1,7 +1,7 @@
-import java.lang.reflect.InvocationTargetException;
 import java.lang.reflect.Method;
 import java.lang.reflect.Modifier;
 import java.util.ArrayList;
+import java.util.Arrays;
 import java.util.Comparator;
 import java.util.List;
 
@@ -9,6 +9,7 @@ import java.util.List;
 public final class AgainstModelTest {
     private static final int RUNS = 600;
     private static final int CALLS = 512;
+    private static final int CALLS_TO_TELL = 97;
     private static final int[] EXTREMES = {
         Integer.MIN_VALUE, Integer.MIN_VALUE + 1, -1000, -9, -2, -1, 6, 8, 10, 17, 100, 256, 1000,
         Integer.MAX_VALUE - 1, Integer.MAX_VALUE};
@@ -19,7 +20,7 @@ public final class AgainstModelTest {
     private final Due due = new Due();
     private final List<Method> methods = new ArrayList<>();
     private long lot = 20261118;
-    private SettingsInLayers real;
+    private Called real;
     private Model model;
     private StringBuilder history;
 
@@ -48,7 +49,7 @@ public final class AgainstModelTest {
 
     /** Some runs have few layers and keys, so that these meet; some begin with much told. */
     private void oneRun(int run) {
-        real = new SettingsInLayers();
+        real = new Called();
         model = new Model();
         history = new StringBuilder();
         int calls = 0;
@@ -57,7 +58,7 @@ public final class AgainstModelTest {
             calls += tell(false);
         }
         while (calls < CALLS && due.isAllRight()) {
-            if (below(60) == 0) {
+            if (below(60) == 0 && calls + CALLS_TO_TELL <= CALLS) {
                 calls += tell(below(2) == 0);
             } else {
                 Method method = methods.get(below(methods.size()));
@@ -166,18 +167,13 @@ public final class AgainstModelTest {
     }
 
     private int call(Method method, int... arguments) {
-        Object[] boxed = new Object[arguments.length];
-        for (int i = 0; i < boxed.length; i++) {
-            boxed[i] = arguments[i];
-        }
-        String told = method.getName() + java.util.Arrays.toString(arguments);
+        String told = method.getName() + Arrays.toString(arguments);
         long want = model.answer(method.getName(), arguments);
         history.append(told).append(" = ").append(want).append('\n');
         try {
-            long got = ((Number) method.invoke(real, boxed)).longValue();
-            due.is(told, got, want);
-        } catch (InvocationTargetException | IllegalAccessException e) {
-            due.fails(told + " threw " + e.getCause());
+            due.is(told, real.answer(method.getName(), arguments), want);
+        } catch (RuntimeException | StackOverflowError e) {
+            due.fails(told + " threw " + e);
         }
         if (!due.isAllRight()) {
             System.out.println(history);

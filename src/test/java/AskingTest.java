@@ -404,21 +404,32 @@ public final class AskingTest {
         is("33: nothing changes", x.count(0), 5);
     }
 
-    private static void promise34And35() {
+    private static SettingsInLayers imaged() {
         SettingsInLayers x = Due.told("o0;o3;l027;l319;md3;me4;e0a=01;e0b[105206];e3c+a05;e5h@c;e3d!;");
         is("35: -3", x.on(), -3);
         is("34: how many ENTRIES", x.image(), 5);
-        String then = state(x);
+        return x;
+    }
+
+    private static void promise34And35() {
+        String then = state(imaged());
+        SettingsInLayers x = imaged();
         Due.tell(x, "o0;o1;l033;l310;md0;me1;e0a!;d3c;e0b[905106207];e5g=01;e3d=04;e5h@a;");
         x.row(5);
         x.letter('o');
         int refused = x.count(13);
         is("35: how many ENTRIES", x.on(), 5);
-        is("35: all as then", then.equals(state(x)) ? 1 : 0, 1);
         is("35: ORDER too", x.layer(0, 5), 0);
         is("35: the ROW stays", x.count(5), 1);
         is("35: letters stay", x.count(6), 1);
         is("35: REFUSALS stay", x.count(13), refused);
+        is("35: all as then", then.equals(state(x)) ? 1 : 0, 1);
+        onceMore(then);
+    }
+
+    private static void onceMore(String then) {
+        SettingsInLayers x = imaged();
+        x.on();
         x.sets(4, 4, 4);
         x.adds(0, 1, 8, 8);
         is("35: the image is not what is now", x.on(), 5);

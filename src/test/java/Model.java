@@ -16,7 +16,7 @@ import java.util.regex.Pattern;
  * The document once more, written with the Java library and for reading, not for speed: what the
  * class answers is held against it.
  */
-public final class Model {
+public final class Model implements Answers {
     enum Kind { DEFAULTS, FILE, USER, LOCKED, WEAK, MASK }
 
     enum Form { NUMBER, LIST, REFERENCE, SUM, GAP }
@@ -372,6 +372,7 @@ public final class Model {
     private final int[] refusals = new int[7];
 
     /** What the class is to answer to a call. */
+    @Override
     public long answer(String method, int... a) {
         boolean isLong = method.equals("missing") || method.equals("mean");
         try {

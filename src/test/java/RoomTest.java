@@ -11,14 +11,17 @@ public final class RoomTest {
 
     public static void main(String[] args) {
         Due due = new Due();
-        SettingsInLayers x = Due.told("o0;o1;o2;o3;o4;o5;ma2;mb2;mc2;md4;e0a@b;e1a@b;e0b@c;e1b+c01;"
-            + "e0c=01;e1c=02;e0d[101202];e1d@e;e2e[303];e0f@g;");
-        long answers = everyCall(x, 0);
+        SettingsInLayers[] objects = new SettingsInLayers[4];
+        for (int i = 0; i < objects.length; i++) {
+            objects[i] = Due.told("o0;o1;o2;o3;o4;o5;ma2;mb2;mc2;md4;e0a@b;e1a@b;e0b@c;e1b+c01;"
+                + "e0c=01;e1c=02;e0d[101202];e1d@e;e2e[303];e0f@g;");
+        }
+        long answers = everyCall(objects[0], 0);
         long before = THREADS.getCurrentThreadAllocatedBytes();
         long measuring = THREADS.getCurrentThreadAllocatedBytes() - before;
         before = THREADS.getCurrentThreadAllocatedBytes();
         for (int i = 0; i < 8; i++) {
-            answers += everyCall(x, i);
+            answers += everyCall(objects[1 + i / 3], i);
         }
         long made = THREADS.getCurrentThreadAllocatedBytes() - before - measuring;
         due.is("bytes made by calls", made, 0);
@@ -26,6 +29,7 @@ public final class RoomTest {
         due.end();
     }
 
+    /** 115 calls: three times as many are still far from the 512th. */
     private static long everyCall(SettingsInLayers x, int i) {
         long sum = x.image() + x.kind(5, i % 6, i) + x.manner(i, i % 5) + x.sets(5, i, i)
             + x.drops(5, i) + x.adds(5, i, i, i) + x.refers(5, i, 7 - i, -1) + x.gap(5, i)
