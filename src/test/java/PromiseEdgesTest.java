@@ -21,6 +21,7 @@ public final class PromiseEdgesTest {
         promises34And35();
         promise36();
         promise36Refusals();
+        RUNS.eachPromiseIsQuoted();
         DUE.end();
     }
 
@@ -34,6 +35,15 @@ public final class PromiseEdgesTest {
             count 11 = 0; count 12 = 0; count 13 = 0; count 14 = 0; count 15 = 0; count 16 = 0
             layer 0 1 = 0; layer 5 1 = 0; layer 0 2 = 0; layer 5 2 = 0; layer 0 4 = 0; layer 5 4 = 0
             manner 0 0 = 0; manner 7 0 = 0; since = -3; on = -3; clear = 0; settings = -1000
+            """);
+        run("A letter (0 .. 255) comes: how many there are. -4; -6 (255; 96, too)", """
+            letter 0 = 1; letter 255 = 2; letter -1 = -4; letter 256 = -6; 94* letter 59 = 96; letter 59 = -6
+            letter -1 = -4; count 6 = 96; count 14 = 2; count 16 = 2
+            """);
+        run("The letters become SETTINGS, and are no more (with a FAULT neither): how many STATEMENTS; the FAULT", """
+            settings = -1000; count 6 = 0
+            tell o0;o5; = 2
+            count 6 = 0; count 1 = 33; letter 111; letter 54; settings = -1002; count 6 = 0; letter 59; count 6 = 1
             """);
         run("A LAYER is ON, or off: 1, 0. -1", """
             turns 0 = 1; turns 0 = 0; turns 5 = 1; turns 5 = 0; turns 6 = -1; turns -1 = -1; turns 5 = 1; count 1 = 32

@@ -87,6 +87,10 @@ public final class QuestionEdgesTest {
             refers 0 1 2 -1; since = 0; adds 0 2 1 1; since = 7; refers 0 0 1 5; since = 7
             drops 0 2; since = 0
             """);
+        run("if both have a FAULT with alike codes", """
+            turns 0; turns 1; image; manner 0 2; adds 0 0 1 1; value 0 1 = 3; since = 1; image; drops 0 0; since = 1
+            refers 0 0 1 -1; adds 0 1 1 1; since = 2; value 0 1 = 3; sets 0 1 1; image; refers 0 0 7 -1; since = 1
+            """);
     }
 
     private static void likeNumbersAndLists() {
@@ -102,6 +106,10 @@ public final class QuestionEdgesTest {
             tell e0b[105207]; = 1
             since = 3
             tell e0b[105306]; = 1
+            since = 3
+            tell e0b[104206]; = 1
+            since = 3
+            tell e0b[005206]; = 1
             since = 3
             tell e0b[105]; = 1
             since = 3

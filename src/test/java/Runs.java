@@ -2,6 +2,8 @@ import java.io.IOException;
 import java.io.UncheckedIOException;
 import java.nio.file.Files;
 import java.nio.file.Path;
+import java.util.ArrayList;
+import java.util.List;
 
 /**
  * Runs of calls on new objects, told as text: calls with "; " between them or a line each, with
@@ -12,6 +14,7 @@ import java.nio.file.Path;
 final class Runs {
     private static final String DOCUMENT = read(Path.of("../shared/DOC.md"));
     private final Due due;
+    private final List<String> quotes = new ArrayList<>();
 
     Runs(Due due) {
         this.due = due;
@@ -27,10 +30,23 @@ final class Runs {
 
     void run(String sentence, String calls) {
         due.is("the document says: " + sentence, DOCUMENT.contains(sentence) ? 1 : 0, 1);
+        quotes.add(sentence);
         Called x = new Called();
         for (String line : calls.split("\n")) {
             line(sentence, x, line.strip());
         }
+    }
+
+    /** Fails for a promise of which no run quotes a sentence. */
+    void eachPromiseIsQuoted() {
+        int promise = 0;
+        for (String line : DOCUMENT.split("\n")) {
+            promise += line.startsWith("## Promise ") ? 1 : 0;
+            if (promise > 0 && line.startsWith("`")) {
+                due.is("promise " + promise + " has a run", quotes.stream().anyMatch(line::contains) ? 1 : 0, 1);
+            }
+        }
+        due.is("promises", promise, 36);
     }
 
     private void line(String sentence, Answers x, String line) {

@@ -421,6 +421,12 @@ public final class TermEdgesTest {
             sources 0 0 = 2; sources 0 1 = 18; manner 0 1; sources 0 1 = 5; manner 0 2; sources 0 1 = 23
             manner 0 3; sources 0 1 = 18; manner 2 2; sources 0 1 = 26; refers 5 6 0 -1; sources 6 1 = 58
             """);
+        run("DEEP SOURCES: and those of all KEYS RESOLVED for these", ALL_ON + """
+            manner 0 3; refers 0 0 1 0; sets 1 0 60; sets 5 1 50; sources 0 0 = 2; sources 0 1 = 2
+            sets 5 1 60; sources 0 0 = 1; sources 0 1 = 33; sets 1 0 61; refers 2 0 2 0; sets 4 2 62; sets 3 0 62
+            sources 0 0 = 4; sources 0 1 = 20; sets 3 0 63; sources 0 1 = 8; manner 0 1; sources 0 1 = 33
+            manner 0 4; sources 0 1 = -3; manner 0 2; sources 0 1 = 63; manner 0 0; sources 0 1 = 8
+            """);
         run("the LAYER whose OFFER gave its NUMBER (of a REFERENCE likewise that LAYER)", """
             turns 0; turns 1; turns 5; adds 0 1 3 4; refers 5 0 1 -1; item 0 0 2 = 5; item 1 0 2 = 0
             manner 0 4; adds 1 0 2 2; item 0 0 2 = 1; item 0 1 2 = 5; refers 0 0 1 -1; item 0 0 0 = 3
