@@ -16,13 +16,16 @@ public final class AgainstModelTest {
     private static final String[] TOLD = {
         "o#", "l###", "e#k=##", "e#k=##", "e#k@k", "e#k@k", "e#k+k##", "e#k!", "e#k[###]",
         "e#k[######]", "e#k[]", "e#k[############]", "e#k[###############]", "d#k", "mk#"};
+    private static final int[] DENSE_MANNERS = {2, 2, 3, 3, 3, 4, 0, 1};
 
     private final Due due = new Due();
+    private final int[] faultsSeen = new int[7];
     private final List<Method> methods = new ArrayList<>();
     private long lot = 20261118;
     private Called real;
     private Model model;
     private StringBuilder history;
+    private long answered;
 
     public static void main(String[] args) {
         new AgainstModelTest().run();
@@ -39,7 +42,15 @@ public final class AgainstModelTest {
         for (int run = 0; run < RUNS && due.isAllRight(); run++) {
             oneRun(run);
         }
+        eachFaultWasSeen();
         due.end();
+    }
+
+    /** A lot that never comes to a fault would say nothing of it. */
+    private void eachFaultWasSeen() {
+        for (int code = 1; code < faultsSeen.length; code++) {
+            due.is("fault " + code + " came in some runs", Math.min(faultsSeen[code], 20), 20);
+        }
     }
 
     private int below(int m) {
@@ -47,15 +58,19 @@ public final class AgainstModelTest {
         return (int) ((lot >>> 33) % m);
     }
 
-    /** Some runs have few layers and keys, so that these meet; some begin with much told. */
+    /** Some runs begin with much told in letters, some with keys that go deep, some with nothing. */
     private void oneRun(int run) {
         real = new Called();
         model = new Model();
         history = new StringBuilder();
         int calls = 0;
-        int beginnings = run % 4 == 3 ? 0 : 2 + run % 3;
+        boolean isDense = run % 4 == 1;
+        int beginnings = run % 4 == 3 ? 0 : isDense ? 1 : 2 + run % 3;
         for (int i = 0; i < beginnings; i++) {
             calls += tell(false);
+        }
+        if (isDense) {
+            calls += dense();
         }
         while (calls < CALLS && due.isAllRight()) {
             if (below(60) == 0 && calls + CALLS_TO_TELL <= CALLS) {
@@ -65,6 +80,46 @@ public final class AgainstModelTest {
                 calls += call(method, arguments(method));
             }
         }
+    }
+
+    /**
+     * Nearly all layers on, and keys made of keys behind them, for sums too great and the 61st key,
+     * which lots alone seldom come to.
+     */
+    private int dense() {
+        boolean isLong = below(2) == 0;
+        int calls = 0;
+        for (int layer = 0; layer < 6; layer++) {
+            boolean isToBeOn = below(20) != 0;
+            calls += isToBeOn == (model.answer("layer", layer, 0) == 1) ? 0 : call(method("turns"), layer);
+            for (int key = 0; key < 8; key++) {
+                calls += below(8) == 0 ? 0 : denseEntry(layer, key, isLong);
+            }
+        }
+        for (int key = 0; key < 8; key++) {
+            int manner = isLong ? 2 + below(2) : DENSE_MANNERS[below(DENSE_MANNERS.length)];
+            calls += call(method("manner"), key, manner);
+        }
+        return calls + everyFault();
+    }
+
+    private int everyFault() {
+        int calls = 0;
+        for (int key = 0; key < 8; key++) {
+            answered = 0;
+            for (int k = 0; k <= 9 && answered >= 0; k++) {
+                calls += call(method("fault"), key, k, 1) + call(method("fault"), key, k, 0);
+            }
+        }
+        return calls;
+    }
+
+    private int denseEntry(int layer, int key, boolean isLong) {
+        if (key >= 6 || below(isLong ? 10 : 4) == 0) {
+            return call(method("sets"), layer, key, isLong ? below(5) : 60 + below(40));
+        }
+        int other = below(60) == 0 ? below(8) : key + 1 + below(Math.min(7 - key, isLong ? 2 : 3));
+        return call(method("refers"), layer, key, other, below(2) == 0 ? -1 : below(isLong ? 3 : 100));
     }
 
     private int tell(boolean isSpoilt) {
@@ -169,7 +224,11 @@ public final class AgainstModelTest {
     private int call(Method method, int... arguments) {
         String told = method.getName() + Arrays.toString(arguments);
         long want = model.answer(method.getName(), arguments);
+        answered = want;
         history.append(told).append(" = ").append(want).append('\n');
+        if (method.getName().equals("fault") && arguments[2] == 0 && want > 0) {
+            faultsSeen[(int) want]++;
+        }
         try {
             due.is(told, real.answer(method.getName(), arguments), want);
         } catch (RuntimeException | StackOverflowError e) {
