@@ -16,10 +16,14 @@ public final class AgainstModelTest {
     private static final String[] TOLD = {
         "o#", "l###", "e#k=##", "e#k=##", "e#k@k", "e#k@k", "e#k+k##", "e#k!", "e#k[###]",
         "e#k[######]", "e#k[]", "e#k[############]", "e#k[###############]", "d#k", "mk#"};
-    private static final int[] DENSE_MANNERS = {2, 2, 3, 3, 3, 4, 0, 1};
+    private static final int[] TO_BE_BIG = {2, 2, 3, 3, 3, 4, 0, 1};
+    private static final int[] TO_BE_LONG = {2, 3};
+    private static final int[] TO_BE_LISTS = {4, 4, 4, 4, 0, 1};
+    private static final int[][] DENSE_MANNERS = {TO_BE_BIG, TO_BE_LONG, TO_BE_LISTS};
 
     private final Due due = new Due();
     private final int[] faultsSeen = new int[7];
+    private int itemsMerged;
     private final List<Method> methods = new ArrayList<>();
     private long lot = 20261118;
     private Called real;
@@ -42,15 +46,16 @@ public final class AgainstModelTest {
         for (int run = 0; run < RUNS && due.isAllRight(); run++) {
             oneRun(run);
         }
-        eachFaultWasSeen();
+        rareOnesWereSeen();
         due.end();
     }
 
-    /** A lot that never comes to a fault would say nothing of it. */
-    private void eachFaultWasSeen() {
+    /** A lot that never comes to a fault, or to a long list, would say nothing of it. */
+    private void rareOnesWereSeen() {
         for (int code = 1; code < faultsSeen.length; code++) {
             due.is("fault " + code + " came in some runs", Math.min(faultsSeen[code], 20), 20);
         }
+        due.is("lists of more than 5 items came in some runs", Math.min(itemsMerged, 20), 20);
     }
 
     private int below(int m) {
@@ -65,7 +70,7 @@ public final class AgainstModelTest {
         history = new StringBuilder();
         int calls = 0;
         boolean isDense = run % 4 == 1;
-        int beginnings = run % 4 == 3 ? 0 : isDense ? 1 : 2 + run % 3;
+        int beginnings = isDense || run % 4 == 3 ? 0 : 2 + run % 3;
         for (int i = 0; i < beginnings; i++) {
             calls += tell(false);
         }
@@ -83,43 +88,66 @@ public final class AgainstModelTest {
     }
 
     /**
-     * Nearly all layers on, and keys made of keys behind them, for sums too great and the 61st key,
-     * which lots alone seldom come to.
+     * Nearly all layers on, and keys made of keys behind them: for sums too great, for the 61st key,
+     * for lists merged of lists, which lots alone seldom come to.
      */
     private int dense() {
-        boolean isLong = below(2) == 0;
+        int[] manners = DENSE_MANNERS[below(DENSE_MANNERS.length)];
         int calls = 0;
         for (int layer = 0; layer < 6; layer++) {
             boolean isToBeOn = below(20) != 0;
             calls += isToBeOn == (model.answer("layer", layer, 0) == 1) ? 0 : call(method("turns"), layer);
             for (int key = 0; key < 8; key++) {
-                calls += below(8) == 0 ? 0 : denseEntry(layer, key, isLong);
+                calls += below(8) == 0 ? 0 : denseEntry(layer, key, manners);
             }
         }
         for (int key = 0; key < 8; key++) {
-            int manner = isLong ? 2 + below(2) : DENSE_MANNERS[below(DENSE_MANNERS.length)];
-            calls += call(method("manner"), key, manner);
+            calls += call(method("manner"), key, manners[below(manners.length)]);
         }
-        return calls + everyFault();
-    }
-
-    private int everyFault() {
-        int calls = 0;
         for (int key = 0; key < 8; key++) {
-            answered = 0;
-            for (int k = 0; k <= 9 && answered >= 0; k++) {
-                calls += call(method("fault"), key, k, 1) + call(method("fault"), key, k, 0);
-            }
+            calls += everyFault(key) + everyItem(key);
         }
         return calls;
     }
 
-    private int denseEntry(int layer, int key, boolean isLong) {
+    private int denseEntry(int layer, int key, int[] manners) {
+        boolean isLong = manners == TO_BE_LONG;
         if (key >= 6 || below(isLong ? 10 : 4) == 0) {
-            return call(method("sets"), layer, key, isLong ? below(5) : 60 + below(40));
+            return manners == TO_BE_LISTS ? denseList(layer, key)
+                : call(method("sets"), layer, key, isLong ? below(5) : 60 + below(40));
         }
         int other = below(60) == 0 ? below(8) : key + 1 + below(Math.min(7 - key, isLong ? 2 : 3));
-        return call(method("refers"), layer, key, other, below(2) == 0 ? -1 : below(isLong ? 3 : 100));
+        boolean isSum = manners != TO_BE_LISTS && below(2) == 0;
+        return call(method("refers"), layer, key, other, isSum ? below(isLong ? 3 : 100) : -1);
+    }
+
+    private int denseList(int layer, int key) {
+        int calls = 0;
+        int items = 1 + below(3);
+        for (int i = 0; i < items; i++) {
+            calls += call(method("adds"), layer, key, below(10), below(100));
+        }
+        return calls;
+    }
+
+    private int everyFault(int key) {
+        int calls = 0;
+        answered = 0;
+        for (int k = 0; k <= 9 && answered >= 0; k++) {
+            calls += call(method("fault"), key, k, 1) + call(method("fault"), key, k, 0);
+        }
+        return calls;
+    }
+
+    private int everyItem(int key) {
+        int calls = 0;
+        answered = 0;
+        for (int i = 0; i <= 10 && answered >= 0; i++) {
+            for (int what = 0; what < 3; what++) {
+                calls += call(method("item"), key, i, what);
+            }
+        }
+        return calls;
     }
 
     private int tell(boolean isSpoilt) {
@@ -228,6 +256,9 @@ public final class AgainstModelTest {
         history.append(told).append(" = ").append(want).append('\n');
         if (method.getName().equals("fault") && arguments[2] == 0 && want > 0) {
             faultsSeen[(int) want]++;
+        }
+        if (method.getName().equals("item") && arguments[1] > 4 && want >= 0) {
+            itemsMerged++;
         }
         try {
             due.is(told, real.answer(method.getName(), arguments), want);
